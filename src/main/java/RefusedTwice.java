@@ -28,7 +28,8 @@ public final class RefusedTwice {
     private final Street[] streets = new Street[MOST_STREETS];
     private int streetCount = 0;
 
-    private final int[] friends = new int[MOST_PEOPLE];
+    // Of each one, those with higher numbers (as bits) whom it can be wed to in time.
+    private final int[] laterFriends = new int[MOST_PEOPLE];
     private final int[] mostPairs = new int[1 << MOST_PEOPLE];
 
     private final Trace trace = new Trace();
@@ -201,14 +202,9 @@ public final class RefusedTwice {
             return BAD;
         }
         for (int i = 0; i < now.people; i++) {
-            friends[i] = 0;
-        }
-        for (int i = 0; i < now.people; i++) {
+            laterFriends[i] = 0;
             for (int j = i + 1; j < now.people; j++) {
-                if (isWithin(now.awaited(i, j), n)) {
-                    friends[i] |= 1 << j;
-                    friends[j] |= 1 << i;
-                }
+                laterFriends[i] |= isWithin(now.awaited(i, j), n) ? 1 << j : 0;
             }
         }
         findMostPairs();
@@ -610,7 +606,7 @@ public final class RefusedTwice {
             int others = set & ~(1 << first);
             int most = mostPairs[others];
             for (int j = first + 1; j < now.people; j++) {
-                if (hasBit(others & friends[first], j)) {
+                if (hasBit(others & laterFriends[first], j)) {
                     most = Math.max(most, 1 + mostPairs[others & ~(1 << j)]);
                 }
             }
@@ -640,7 +636,7 @@ public final class RefusedTwice {
     private int firstMate(int person, int left) {
         int others = left & ~(1 << person);
         for (int j = person + 1; j < now.people; j++) {
-            if (hasBit(others & friends[person], j) && 1 + mostPairs[others & ~(1 << j)] == mostPairs[left]) {
+            if (hasBit(others & laterFriends[person], j) && 1 + mostPairs[others & ~(1 << j)] == mostPairs[left]) {
                 return j;
             }
         }
@@ -962,7 +958,7 @@ public final class RefusedTwice {
                 loudness[word] = 1;
             }
             for (int i = 0; i < clauses; i++) {
-                int words = worth[i] == 0 ? 0 : wordsHolding(i, no);
+                int words = wordsHolding(i, no);
                 for (int word = 0; word < WORDS; word++) {
                     loudness[word] += hasBit(words, word) ? worth[i] : 0;
                 }
