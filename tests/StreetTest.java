@@ -192,6 +192,7 @@ public final class StreetTest {
         heard("deaf 9 p=0;loud 9 w<4", 0, 1, 15);
         heard("loud 99 p=0;deaf 99 p=0;deaf 1 w=2", 0, 1, 11);
         heard("deaf 2 w=0;loud 1 q=1;loud 1 k=2", 0, 1, 15);
+        heard("begin 1;".repeat(6) + "deaf 1 w=0;deaf 1 w=1;deaf 1 w=2;deaf 1 w=2", 0, 1, 8);
     }
 
     private static void letters() {
