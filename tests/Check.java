@@ -2,12 +2,18 @@
 final class Check {
     private int asked = 0;
     private int wrong = 0;
+    private String about = "";
+
+    /** What is told ahead of each answer that is otherwise, from now on. */
+    void isAbout(String words) {
+        about = words;
+    }
 
     void due(String call, long got, long want) {
         asked++;
         if (got != want) {
             wrong++;
-            System.out.println(call + " answered " + got + ", due is " + want);
+            System.out.println(about + call + " answered " + got + ", due is " + want);
         }
     }
 
@@ -19,8 +25,8 @@ final class Check {
         }
     }
 
-    boolean isRight() {
-        return wrong == 0;
+    int howManyAsked() {
+        return asked;
     }
 
     void end() {

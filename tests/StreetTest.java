@@ -77,7 +77,7 @@ public final class StreetTest {
         due("street", Check.reads(x, "loud 1 p=0"), 0);
         due("no begin", x.told(1), 0);
         due("not deaf", x.counts(0, 1, 0), 1);
-        for (int i = 0; i < 20; i++) {
+        for (int i = 0; i < 4; i++) {
             due("a fault", Check.reads(x, "deaf 1 " + "p=0|".repeat(20)), -10 - 87);
         }
         due("street", Check.reads(x, "deaf 1 w=1|w=3"), 1);
