@@ -226,6 +226,11 @@ final class SaidEdges extends Edges {
         x.refuse(0, 1, 1);
         due("on the day of LAST, above", x.odds(0, 1, 0), 0);
         due("on the day of LAST, below", x.odds(0, 1, 1), 1);
+        x.pass(2);
+        due("two days later, 0 and 1 being none, above", x.odds(0, 1, 0), 1);
+        due("two days later, below", x.odds(0, 1, 1), 2);
+        x.pass(1);
+        due("on an odd day, above", x.odds(0, 1, 0), 0);
     }
 
     @Holds(promise = 16, says = "v the v of who says it,")
