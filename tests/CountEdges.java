@@ -284,6 +284,18 @@ final class CountEdges extends Edges {
         due("2 and 2: of(1, 2)", x.of(1, 2), 0);
     }
 
+    @Holds(promise = 6, says = "Then, if TALLY is 2 either way, and neither is WED, they are WED.")
+    void notWedAtTwoOneWay() {
+        RefusedTwice x = comesTo(kinds(LOUD, LOUD), row(1, 0, 2));
+        due("0 and 2", x.told(2), 0);
+        due("a first, to one who has said two", x.refuse(0, 1, 0), 1);
+        due("1 and 2: of(0, 2)", x.of(0, 2), NIL);
+        due("1 and 2: of(1, 2)", x.of(1, 2), NIL);
+        x.pass(1);
+        due("a second", x.refuse(0, 1, 1), 2);
+        due("2 and 2: told(2)", x.told(2), 2);
+    }
+
     @Holds(promise = 6, says = "and neither is WED,")
     void notWedWhileOneIs() {
         RefusedTwice x = comesTo(sixLoud(), row(0, 1, 2), row(1, 0, 2), row(0, 2, 2), row(2, 0, 2), row(3, 1, 2),

@@ -207,6 +207,21 @@ final class ImageEdges extends Edges {
         due("its ROW", x.row(3, 0, 0), 0);
     }
 
+    @Holds(promise = 24, says = "THE IMAGE: PEOPLE with all that is theirs,")
+    void whoCameLaterLeavesRoom() {
+        RefusedTwice x = goes(kinds(LOUD, LOUD, LOUD, LOUD, LOUD), 1);
+        x.image();
+        due("a sixth", x.one(KIND, 1), 5);
+        x.plan(1, 500);
+        due("the sixth is KIND on an odd day", x.ends(1), 0);
+        due("undo()", x.undo(), 5);
+        due("another sixth", x.one(LOUD, 2), 5);
+        x.plan(1, 500);
+        due("that one is LOUD", x.ends(1), 1);
+        due("its KIND", x.of(5, 0), LOUD);
+        due("a seventh", x.one(LOUD, 0), FULL);
+    }
+
     @Holds(promise = 24, says = "what is between them,")
     void whatIsBetweenThem() {
         RefusedTwice x = comesTo(kinds(LOUD, LOUD, LOUD), row(0, 1, 2), row(1, 0, 1));
@@ -233,7 +248,7 @@ final class ImageEdges extends Edges {
     void dayAndRows() {
         RefusedTwice x = kinds(LOUD, LOUD);
         x.pass(7);
-        x.say(0, 1, 0, 0, true);
+        x.say(1, 0, 3, 0, true);
         x.say(0, 1, 0, 0, false);
         x.plan(0, 0);
         x.plan(1, 10);

@@ -171,6 +171,21 @@ final class PlanEdges extends Edges {
         due("nobody is WED by that", x.told(2), 0);
     }
 
+    @Holds(promise = 19, says = "ENDS: how many are WED; TALLIES of all, together.")
+    void ofEachToEachOther() {
+        for (int one = 0; one < 6; one++) {
+            for (int other = 0; other < 6; other++) {
+                if (one != other) {
+                    RefusedTwice x = comesTo(sixLoud(), row(one, other, 1), row(other, one, 2));
+                    String two = one + " to " + other + ": ";
+                    due(two + "plan", x.plan(1, 100 * one + 10 * other + 3), 1);
+                    due(two + "WED", x.ends(0), 2);
+                    due(two + "TALLIES", x.ends(1), 4);
+                }
+            }
+        }
+    }
+
     @Holds(promise = 19, says = "NONE.")
     void noSuchEnd() {
         for (int what : new int[] {-1, 2, LEAST, MOST}) {
